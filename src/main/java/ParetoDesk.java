@@ -324,7 +324,7 @@ public final class ParetoDesk {
 
     public int knee() {
         refreshSearch();
-        // The last point has the value of the first one by these weights, so what the first step finds lies between them.
+        // The last point has the first one's value by these weights, so what the first step finds lies between.
         return search.count > 0 ? search.found[0] : NONE;
     }
 
@@ -1020,16 +1020,12 @@ public final class ParetoDesk {
             return number;
         }
 
-        private int passNamedNumber(String word, int greatest) {
-            return passWord(word) ? passNumber(greatest) : NONE;
-        }
-
         private boolean readFrame() {
-            draft.capacity = passNamedNumber("capacity", MOST_CAPACITY);
+            draft.capacity = passWord("capacity") ? passNumber(MOST_CAPACITY) : NONE;
             if (draft.capacity == NONE) {
                 return false;
             }
-            draft.limit = passNamedNumber("limit", MOST_LIMIT);
+            draft.limit = passWord("limit") ? passNumber(MOST_LIMIT) : NONE;
             return draft.limit != NONE && passEnd();
         }
 
@@ -1051,15 +1047,15 @@ public final class ParetoDesk {
                 return fail(4);
             }
             advance();
-            int weight = passNamedNumber("weight", MOST_VALUE);
+            int weight = passWord("weight") ? passNumber(MOST_VALUE) : NONE;
             if (weight == NONE) {
                 return false;
             }
-            int gain = passNamedNumber("gain", MOST_VALUE);
+            int gain = passWord("gain") ? passNumber(MOST_VALUE) : NONE;
             if (gain == NONE) {
                 return false;
             }
-            int joy = passNamedNumber("joy", MOST_VALUE);
+            int joy = passWord("joy") ? passNumber(MOST_VALUE) : NONE;
             if (joy == NONE) {
                 return false;
             }
@@ -1160,7 +1156,7 @@ public final class ParetoDesk {
 
         int leastWeight(int leastGain, int leastJoy) {
             int least = MOST_CAPACITY + 1;
-            for (int set = 0; set < sets; set++) {
+            for (int set = 0; set < sets && set < MOST_SETS; set++) {
                 if (weight[set] < least && gain[set] >= leastGain && joy[set] >= leastJoy
                         && reasonBesideWeight(set) == 0) {
                     least = weight[set];
@@ -1179,16 +1175,19 @@ public final class ParetoDesk {
         void build(Choices choices, int capacity, int without) {
             Arrays.fill(joyAt, NONE);
             allowedCount = 0;
-            for (int set = 0; set < choices.sets; set++) {
+            for (int set = 0; set < choices.sets && set < MOST_SETS; set++) {
                 if ((set & without) == 0 && choices.reason(set, capacity) == 0) {
                     allowedCount++;
-                    int gain = choices.gain[set];
-                    if (choices.joy[set] > joyAt[gain]) {
-                        joyAt[gain] = choices.joy[set];
-                    }
+                    keepGreatest(choices.gain[set], choices.joy[set]);
                 }
             }
             dropBeaten();
+        }
+
+        private void keepGreatest(int gain, int joy) {
+            if (gain >= 0 && gain < SUMS && joy > joyAt[gain]) {
+                joyAt[gain] = joy;
+            }
         }
 
         private void dropBeaten() {
@@ -1268,7 +1267,7 @@ public final class ParetoDesk {
         }
 
         private void readChoices(Choices choices, int capacity) {
-            for (int set = 0; set < choices.sets; set++) {
+            for (int set = 0; set < choices.sets && set < MOST_SETS; set++) {
                 int point = pointWithPair(choices.gain[set], choices.joy[set]);
                 if (point != NONE && choices.reason(set, capacity) == 0) {
                     if (times[point] == 0) {
@@ -1285,19 +1284,14 @@ public final class ParetoDesk {
         private void findVertices() {
             vertexCount = 0;
             for (int point = 0; point < size; point++) {
-                while (vertexCount >= 2 && !turnsDown(point)) {
+                // The latest vertex is none if it does not lie above the line from the one before it to this point.
+                while (vertexCount >= 2
+                        && heightOver(vertexPoint[vertexCount - 2], point, vertexPoint[vertexCount - 1]) <= 0) {
                     vertexCount--;
                 }
                 vertexPoint[vertexCount] = point;
                 vertexCount++;
             }
-        }
-
-        /** Whether the latest vertex lies above the line from the vertex before it to a point. */
-        private boolean turnsDown(int point) {
-            int last = vertexPoint[vertexCount - 1];
-            int before = vertexPoint[vertexCount - 2];
-            return heightOver(before, point, last) > 0;
         }
 
         /** Above 0 if a point lies above the line of two others, 0 if it lies on it. */
@@ -1384,7 +1378,7 @@ public final class ParetoDesk {
                 reached[point] = false;
             }
             int count = 0;
-            for (int set = 0; set < choices.sets; set++) {
+            for (int set = 0; set < choices.sets && set < MOST_SETS; set++) {
                 int point = pointWithPair(choices.gain[set], choices.joy[set]);
                 if ((set & without) == 0 && point != NONE && !reached[point]
                         && choices.reason(set, capacity) == 0) {
@@ -1456,12 +1450,10 @@ public final class ParetoDesk {
 
         private void sortByJoy(Choices choices, int capacity) {
             Arrays.fill(firstOfJoy, NONE);
-            for (int set = 0; set < choices.sets; set++) {
+            for (int set = 0; set < choices.sets && set < MOST_SETS; set++) {
                 layer[set] = NONE;
                 if (choices.reason(set, capacity) == 0) {
-                    int joy = choices.joy[set];
-                    nextOfJoy[set] = firstOfJoy[joy];
-                    firstOfJoy[joy] = set;
+                    putAhead(set, choices.joy[set], firstOfJoy, nextOfJoy);
                 }
             }
         }
@@ -1472,11 +1464,16 @@ public final class ParetoDesk {
             for (int joy = 0; joy < SUMS; joy++) {
                 int set = firstOfJoy[joy];
                 for (int i = 0; i < MOST_SETS && set != NONE; i++) {
-                    int gain = choices.gain[set];
-                    nextOfGain[set] = firstOfGain[gain];
-                    firstOfGain[gain] = set;
+                    putAhead(set, choices.gain[set], firstOfGain, nextOfGain);
                     set = nextOfJoy[set];
                 }
+            }
+        }
+
+        private static void putAhead(int set, int sum, int[] first, int[] next) {
+            if (sum >= 0 && sum < SUMS) {
+                next[set] = first[sum];
+                first[sum] = set;
             }
         }
 
