@@ -82,6 +82,10 @@ public final class ParserTest {
         wrong(1, HEAD + "^foo;");
         wrong(1, "^capacit 5 limit 5;");
         wrong(1, "^capacitys 5 limit 5;");
+        wrong(1, "^capacityz 5 limit 5;");
+        wrong(1, "^acapacity 5 limit 5;");
+        wrong(1, "capacity 5 ^limita 5;");
+        wrong(1, HEAD + "^itemz weight 1 gain 1 joy 1;");
     }
 
     private static void items() {

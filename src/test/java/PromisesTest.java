@@ -43,6 +43,7 @@ public final class PromisesTest {
         promises61And62();
         promises63To65();
         throwingChangesNothing();
+        firstCallBehindAChange();
         Checks.end("PromisesTest");
     }
 
@@ -823,6 +824,44 @@ public final class PromisesTest {
         }
         Checks.sameText("the greatest sums", Checks.frontier(rich), "1188,1188!");
         Checks.same("the greatest area", rich.area(), 1188 * 1188);
+        Checks.same("the layer of the greatest sums", rich.layerOf(4095), 0);
+        Checks.same("the layer of no sums", rich.layerOf(0), 12);
+    }
+
+    /** What was asked ahead of a change must not be answered again behind it, whichever call comes first. */
+    private static void firstCallBehindAChange() {
+        Checks.same("point", changedDesk().point(1, 0), 3);
+        Checks.same("lightest", changedDesk().lightest(1), 2);
+        Checks.same("apart", changedDesk().apart(0, 1), 2);
+        Checks.same("refusal", changedDesk().refusal(3), 2);
+        Checks.same("sum", changedDesk().sum(2, 2), 1);
+        Checks.same("allowed", changedDesk().allowed(), 3);
+        Checks.same("points", changedDesk().points(), 2);
+        Checks.same("steps", changedDesk().steps(), 1);
+        Checks.same("knee", changedDesk().knee(), -1);
+        Checks.same("layers", changedDesk().layers(), 2);
+        Checks.same("layerOf", changedDesk().layerOf(0), 1);
+        Checks.same("vertex", changedDesk().vertex(1), 1);
+        Checks.same("box", changedDesk().box(0, 1), 1);
+        Checks.same("area", changedDesk().area(), 4);
+        Checks.same("worth", changedDesk().worth(1), 2);
+        Checks.same("lostWithout", changedDesk().lostWithout(1), 1);
+        Checks.same("pointsWith", changedDesk().pointsWith(1), 2);
+        Checks.same("capacityFor", changedDesk().capacityFor(3, 0), 1);
+        Checks.same("climb", changedDesk().climb(1, 1), 2);
+        Checks.same("take", changedDesk().take(1), 1);
+        Checks.same("chooseBest", changedDesk().chooseBest(1, 1), 2);
+        Checks.sameText("writeFrontier", Checks.frontier(changedDesk()), "1,2! 3,1!");
+    }
+
+    /** A desk that was asked for all it works out, and then changed. */
+    private static ParetoDesk changedDesk() {
+        ParetoDesk desk = Checks.deskOf("capacity 9 limit 12; item weight 1 gain 1 joy 2; item weight 1 gain 2 joy 1;");
+        Checks.same("points ahead of a change", desk.points() + desk.steps() + desk.layers(), 1 + 0 + 3);
+        desk.setLimit(1);
+        Checks.same("points between two changes", desk.points() + desk.steps() + desk.layers(), 2 + 1 + 2);
+        desk.setItem(1, 1, 3);
+        return desk;
     }
 
     private static void throwingChangesNothing() {

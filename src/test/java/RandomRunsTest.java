@@ -124,8 +124,10 @@ public final class RandomRunsTest {
         return strange() || desk.property(0) == 0 ? wild() : random.nextInt(desk.property(0) + (strange() ? 1 : 0));
     }
 
+    /** Asks the reference alone: the desk's point() shall be the first call behind a change, too. */
     private int point() {
-        return strange() || desk.points() == 0 ? wild() : random.nextInt(desk.points() + (strange() ? 1 : 0));
+        int points = reference.points();
+        return strange() || points == 0 ? wild() : random.nextInt(points + (strange() ? 1 : 0));
     }
 
     private int weight() {
