@@ -114,17 +114,19 @@ public final class FaceTest {
     }
 
     private static void methodsAreShort() throws IOException {
-        int start = 0;
-        int number = 0;
-        for (String line : Files.readAllLines(SOURCE)) {
-            number++;
-            if (line.matches("( {4}| {8})(\\w|@).*\\{") && line.contains("(")) {
-                start = number;
+        List<String> lines = Files.readAllLines(SOURCE);
+        Pattern head = Pattern.compile("( {4}| {8})\\w[^=]*\\(.*\\{");
+        int methods = 0;
+        for (int i = 0; i < lines.size(); i++) {
+            Checks.same("the width of line " + (i + 1), lines.get(i).length() <= 120, true);
+            Matcher matcher = head.matcher(lines.get(i));
+            if (matcher.matches()) {
+                methods++;
+                int length = lines.subList(i, lines.size()).indexOf(matcher.group(1) + "}") + 1;
+                Checks.same(lines.get(i).trim() + " is short", length > 0 && length <= 60, true);
             }
-            Checks.same("lines up to " + number, line.matches("( {4}| {8})}") && number - start > 60 && start > 0
-                && !line.equals("    }"), false);
-            Checks.same("the width of line " + number, line.length() <= 120, true);
         }
+        Checks.same("methods are found", methods > 100, true);
     }
 
     private static void wordsThatTheLanguageLeavesOut() throws IOException {
