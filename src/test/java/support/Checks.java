@@ -8,6 +8,7 @@ final class Checks {
 
     private static int wrong = 0;
     private static int made = 0;
+    private static String sentence = "";
 
     private Checks() {
     }
@@ -65,7 +66,16 @@ final class Checks {
     private static void tell(String line) {
         wrong++;
         if (wrong <= 40) {
-            System.out.println(line);
+            System.out.println(sentence + line);
+        }
+    }
+
+    /** Says which sentence of the document the next checks look at; it must stand in that part. */
+    static void sentence(String part, String words) {
+        made++;
+        sentence = part + ", '" + words + "': ";
+        if (!Document.says(part, words)) {
+            tell("the document does not say so");
         }
     }
 
