@@ -99,9 +99,9 @@ public final class ChangeEdgesTest {
     private static void droppedFromEverywhere() {
         Checks.sentence("Promise 46", "Removes an item, with its rules, also from the choice at hand; the numbers of those behind it get"
             + " less by 1 everywhere.");
-        String text = "capacity 99 limit 9; item weight 1 gain 1 joy 1; item weight 2 gain 2 joy 2; item weight 3 gain 3 joy 3;";
-        String[] due = {"2 99 9 1 1 2 1 3 |2 2 2 2 2 |3 3 3 1 0 ", "2 99 9 0 1 3 0 3 |1 1 1 0 0 |3 3 3 0 1 ",
-            "2 99 9 0 1 1 2 3 |1 1 1 0 2 |2 2 2 0 0 "};
+        String text = "capacity 99 limit 9; item weight 1 gain 4 joy 7; item weight 2 gain 5 joy 8; item weight 3 gain 6 joy 9;";
+        String[] due = {"2 99 9 1 1 2 1 3 |2 5 8 2 2 |3 6 9 1 0 ", "2 99 9 0 1 3 0 3 |1 4 7 0 0 |3 6 9 0 1 ",
+            "2 99 9 0 1 1 2 3 |1 4 7 0 2 |2 5 8 0 0 "};
         for (int item = 0; item < 3; item++) {
             ParetoDesk desk = Checks.deskOf(text);
             desk.choose(7);
@@ -241,6 +241,26 @@ public final class ChangeEdgesTest {
         Checks.same("bar(0, 11, false)", desk.bar(0, 11, false), false);
         Checks.same("item(0, 3) then", desk.item(0, 3), 0);
         Checks.same("item(11, 3) then", desk.item(11, 3), 0);
+        Checks.sentence("Promise 50", "Says whether two items do not go together.");
+        desk.bar(11, 3, true);
+        desk.bar(0, 2, true);
+        desk.need(11, 5, true);
+        desk.need(0, 7, true);
+        desk.bar(0, 11, true);
+        Checks.same("item(0, 3) beside other rules", desk.item(0, 3), 2048 + 4);
+        Checks.same("item(11, 3) beside other rules", desk.item(11, 3), 8 + 1);
+        desk.bar(0, 11, false);
+        Checks.same("item(0, 3) of what stays", desk.item(0, 3), 4);
+        Checks.same("item(11, 3) of what stays", desk.item(11, 3), 8);
+        Checks.same("item(0, 4) of what stays", desk.item(0, 4), 128);
+        Checks.same("item(11, 4) of what stays", desk.item(11, 4), 32);
+        Checks.sentence("Promise 51", "Says whether an item needs another one.");
+        desk.need(0, 3, true);
+        Checks.same("item(0, 4) beside another one", desk.item(0, 4), 128 + 8);
+        Checks.same("item(3, 4) of what is needed", desk.item(3, 4), 0);
+        desk.need(0, 7, false);
+        Checks.same("item(0, 4) then", desk.item(0, 4), 8);
+        Checks.same("item(0, 3) then", desk.item(0, 3), 4);
     }
 
     private static void needBefore() {
@@ -409,6 +429,7 @@ public final class ChangeEdgesTest {
         Checks.same("chooseBest(0, 99)", desk.chooseBest(0, 99), Desks.onLine(0));
         Checks.same("of no items", new ParetoDesk().chooseBest(1, 1), 0);
         Checks.same("the least mask", Desks.ofPairs(2, 2, 3, 3, 3, 3).chooseBest(1, 1), 2);
+        Checks.same("the choice, not the lightest", Desks.heavyFirst().chooseBest(1, 0), 2);
     }
 
     private static void chooseBestWithoutPoints() {
@@ -689,6 +710,8 @@ public final class ChangeEdgesTest {
         ParetoDesk three = Desks.ofPairs(0, 4, 4, 0, 1, 1);
         Checks.sameText("three items", Checks.output(three, three.writeChoices()), "100\n001\n010\n");
         ParetoDesk twelve = Desks.twelve(1, 1);
+        ParetoDesk heavy = Desks.heavyFirst();
+        Checks.sameText("the choices, not the lightest", Checks.output(heavy, heavy.writeChoices()), "1000\n0100\n");
         Checks.sameText("twelve items", Checks.output(twelve, twelve.writeChoices()), "111111111111\n");
         twelve.never(11, true);
         twelve.never(1, true);

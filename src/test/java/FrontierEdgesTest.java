@@ -1,3 +1,5 @@
+import java.util.ArrayList;
+import java.util.List;
 import java.util.NoSuchElementException;
 
 /** The boundary cases of section 3 and of promises 12 to 33: one method for each sentence of the document. */
@@ -41,6 +43,7 @@ public final class FrontierEdgesTest {
         lowestOneFound();
         findsNone();
         mostSteps();
+        hundredsOfPoints();
         stepOutOfRange();
         stepThatDoesNotExist();
         fullestBox();
@@ -349,6 +352,8 @@ public final class FrontierEdgesTest {
         Checks.same("gain counts more", four.nearest(99, 1), 3);
         Checks.same("joy counts more", four.nearest(1, 99), 0);
         Checks.same("gain counts twice", four.nearest(2, 1), 2);
+        Checks.same("weights of 2 and 3", four.nearest(2, 3), 1);
+        Checks.same("weights of 3 and 2", four.nearest(3, 2), 2);
         Checks.same("gain alone", four.nearest(99, 0), 3);
         Checks.same("joy alone", four.nearest(0, 99), 0);
         Checks.same("of two points", Desks.ofPairs(0, 3, 3, 0).nearest(1, 1), 0);
@@ -389,6 +394,9 @@ public final class FrontierEdgesTest {
         Checks.sameText("above one, then beneath another", Checks.frontier(Desks.ofPairs(0, 9, 1, 6, 2, 4, 5, 3, 6, 0)),
             "0,9! 1,6. 2,4. 5,3! 6,0!");
         Checks.same("all of a bow", bow().vertices(), 12);
+        ParetoDesk below = Desks.ofPairs(0, 99, 50, 48, 99, 0);
+        Checks.same("a point below the line is not supported", below.point(1, 5), 0);
+        Checks.same("a point below the line is no vertex", below.point(1, 6), 0);
         ParetoDesk line = Desks.line();
         for (int point = 0; point < 64; point++) {
             Checks.same(Desks.named("point", point, 5), line.point(point, 5), 1);
@@ -571,6 +579,63 @@ public final class FrontierEdgesTest {
         Checks.same("vertices found", found, 10);
     }
 
+    /** Each item has a gain and a joy of 99 together, and six of twelve are chosen, so that all points lie on one line. */
+    private static void hundredsOfPoints() {
+        Checks.sentence("3. FRONTIER", "They are numbered from 0 by ascending gains");
+        int[] gains = {0, 1, 2, 4, 8, 16, 32, 64, 99, 90, 70, 50};
+        ParetoDesk desk = new ParetoDesk();
+        desk.setLimit(6);
+        for (int gain : gains) {
+            desk.addItem(0, gain, 99 - gain);
+        }
+        int[] leastMask = new int[595];
+        for (int set = 4095; set > 0; set--) {
+            if (Integer.bitCount(set) == 6) {
+                leastMask[gainOf(gains, set)] = set;
+            }
+        }
+        List<String> pairs = new ArrayList<>();
+        StringBuilder choices = new StringBuilder();
+        for (int gain = 0; gain < leastMask.length; gain++) {
+            if (leastMask[gain] != 0) {
+                pairs.add(gain + "," + (594 - gain));
+                for (int item = 0; item < 12; item++) {
+                    choices.append(leastMask[gain] >> item & 1);
+                }
+                choices.append('\n');
+            }
+        }
+        Checks.same("points()", desk.points(), pairs.size());
+        Checks.same("supported()", desk.supported(), pairs.size());
+        Checks.same("vertices()", desk.vertices(), 2);
+        Checks.same("steps()", desk.steps(), 1);
+        Checks.same("between the vertices", desk.box(0, 2), pairs.size() - 2);
+        Checks.same("layerSize(0)", desk.layerSize(0), pairs.size());
+        String line = String.join("+ ", pairs) + "!";
+        sameEnds("the frontier", desk, desk.writeFrontier(), line.replaceFirst("\\+", "!"));
+        sameEnds("the choices", desk, desk.writeChoices(), choices.toString());
+        Checks.same("a long output", choices.length() > 3500, true);
+    }
+
+    private static int gainOf(int[] gains, int set) {
+        int sum = 0;
+        for (int item = 0; item < gains.length; item++) {
+            sum += (set >> item & 1) * gains[item];
+        }
+        return sum;
+    }
+
+    /** A desk is used for 512 calls at most, so that only the first and the last bytes of a long output are asked for. */
+    private static void sameEnds(String what, ParetoDesk desk, int length, String due) {
+        Checks.same("the length of " + what, length, due.length());
+        for (int i = 0; i < 100; i++) {
+            Checks.same("byte " + i + " of " + what, desk.outputByte(i), due.charAt(i));
+            int back = due.length() - 1 - i;
+            Checks.same("byte " + back + " of " + what, desk.outputByte(back), due.charAt(back));
+        }
+        Checks.outOfBounds("the byte behind " + what, () -> desk.outputByte(due.length()));
+    }
+
     private static void stepOutOfRange() {
         Checks.sentence("Promise 27", "Throws `IllegalArgumentException` if what is out of range");
         for (ParetoDesk desk : ofAllSizes()) {
@@ -655,7 +720,8 @@ public final class FrontierEdgesTest {
         Checks.same("the least product", Desks.ofPairs(0, 1, 1, 0).gap(), 0);
         Checks.same("of two like products", Desks.ofPairs(2, 9, 4, 4, 9, 2).gap(), 0);
         Checks.same("the last one", Desks.ofPairs(2, 9, 4, 5, 9, 1).gap(), 1);
-        Checks.same("the middle one of eight", Desks.ofPairs(0, 12, 2, 11, 3, 5, 4, 4).gap(), 1);
+        Checks.same("a greater product of a less sum", Desks.ofPairs(0, 20, 1, 10, 5, 6).gap(), 1);
+        Checks.same("the middle one of four", Desks.ofPairs(0, 12, 2, 11, 3, 5, 4, 4).gap(), 1);
     }
 
     private static void coreOfPoints() {
@@ -666,6 +732,10 @@ public final class FrontierEdgesTest {
         Checks.same("of twelve items", Desks.twelve(1, 1).core(), 4095);
         Checks.same("of twelve items that are nothing", Desks.twelve(0, 0).core(), 0);
         Checks.same("of a line", Desks.line().core(), 0);
+        ParetoDesk heavy = Desks.heavyFirst();
+        heavy.never(1, true);
+        heavy.never(3, true);
+        Checks.same("of a choice that is not the lightest", heavy.core(), 1);
         ParetoDesk common = Checks.deskOf("capacity 9 limit 2; item weight 1 gain 5 joy 0; item weight 1 gain 9 joy 9;"
             + "item weight 1 gain 0 joy 5;");
         Checks.same("of two points with one item", common.core(), 2);
@@ -679,6 +749,7 @@ public final class FrontierEdgesTest {
         Checks.same("of twelve items", Desks.twelve(1, 1).unused(), 0);
         Checks.same("of twelve items that are nothing", Desks.twelve(0, 0).unused(), 4095);
         Checks.same("of a line", Desks.line().unused(), 0);
+        Checks.same("of the lightest, which are not the choices", Desks.heavyFirst().unused(), 12);
         // Item 2 has the pair of item 0, but not the least mask.
         Checks.same("of an item with a point's pair", Desks.ofPairs(1, 2, 2, 1, 1, 2).unused(), 4);
     }

@@ -47,6 +47,7 @@ public final class WhatIfEdgesTest {
         Checks.same("of two like items", two.lostWithout(0) + two.lostWithout(1), 0);
         two.never(1, true);
         Checks.same("of two like items, one refused", two.lostWithout(0), 1);
+        Checks.same("of four like items", Desks.ofPairs(5, 5, 5, 5, 5, 5, 5, 5).lostWithout(0), 0);
         Checks.same("of an item that no choice has", two.lostWithout(1), 0);
         Checks.same("of an item that is nothing", Desks.ofPairs(0, 0).lostWithout(0), 0);
         Checks.same("where none is allowed", Desks.none().lostWithout(1), 0);
@@ -190,6 +191,12 @@ public final class WhatIfEdgesTest {
         Checks.same("without points", Desks.none().nearTo(3), -1);
         Checks.same("of no items", new ParetoDesk().nearTo(0), 0);
         Checks.same("of one point, all items apart", Desks.twelve(1, 1).nearTo(0), 0);
+        Checks.same("of the choices, not of the lightest", Desks.heavyFirst().nearTo(2), 1);
+        // The choices are 1 and 6, and differ from 7 by two items and by one.
+        ParetoDesk sizes = Checks.deskOf("capacity 9 limit 9; item weight 1 gain 0 joy 9; item weight 1 gain 5 joy 0;"
+            + "item weight 1 gain 5 joy 0; bar 0 1; bar 0 2;");
+        Checks.same("of a small choice and a great one", sizes.nearTo(7), 1);
+        Checks.same("of a great choice and a small one", sizes.nearTo(0), 0);
     }
 
     private static void nearToOutOfRange() {
@@ -210,6 +217,8 @@ public final class WhatIfEdgesTest {
         Checks.same("the last and the first one", line.apart(63, 0), 12);
         Checks.same("neighbours", line.apart(0, 1), 2);
         Checks.same("one point alone", new ParetoDesk().apart(0, 0), 0);
+        Checks.same("the choice of point 0, not its lightest", Desks.heavyFirst().apart(0, 0), 0);
+        Checks.same("the choice of point 1, not its lightest", Desks.heavyFirst().apart(1, 1), 0);
     }
 
     private static void pointsThatDoNotExist() {
@@ -309,6 +318,17 @@ public final class WhatIfEdgesTest {
         Checks.same("its last layer", chain.layerOf(0), 622);
         Checks.same("its last layer's size", chain.layerSize(622), 1);
         Checks.outOfBounds("behind its last layer", () -> chain.layerSize(623));
+        // Between any two of 524 such pairs there is one with a gain more.
+        ParetoDesk longest = new ParetoDesk();
+        longest.addItem(0, 1, 0);
+        for (int i = 0; i < 11; i++) {
+            longest.addItem(0, Math.min(99, 1 << i), Math.min(99, 1 << i));
+        }
+        Checks.same("of a chain of all pairs", longest.layers(), 1048);
+        Checks.same("the last layer of it", longest.layerOf(0), 1047);
+        Checks.same("the last layer but one of it", longest.layerOf(1), 1046);
+        Checks.same("the size of the last one", longest.layerSize(1047), 1);
+        Checks.outOfBounds("behind the last one", () -> longest.layerSize(1048));
         Checks.same("of gains alone", Desks.twelve(99, 0).layers(), 13);
         Checks.same("of joys alone", Desks.twelve(0, 99).layerOf(0), 12);
     }

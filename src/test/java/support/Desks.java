@@ -21,6 +21,12 @@ final class Desks {
         return desk;
     }
 
+    /** The points 0,3 and 3,0, the choices of which, 1 and 2, are heavier than the others of the same pairs, 4 and 8. */
+    static ParetoDesk heavyFirst() {
+        return Checks.deskOf("capacity 9 limit 1; item weight 5 gain 0 joy 3; item weight 5 gain 3 joy 0;"
+            + "item weight 1 gain 0 joy 3; item weight 1 gain 3 joy 0;");
+    }
+
     /** Twelve items without weight, each of this gain and joy, all of which go together. */
     static ParetoDesk twelve(int gain, int joy) {
         ParetoDesk desk = new ParetoDesk();
