@@ -30,7 +30,7 @@ public final class ChoiceEdgesTest {
     }
 
     private static void propertiesOfAnEmptyDesk() {
-        Checks.sentence("Promise 7", "0 items; 1 the capacity; 2 the limit; 3 pairs that do not go together; 4 pairs of which one"
+        Checks.sentence("Promise 7", "`what`: 0 items; 1 the capacity; 2 the limit; 3 pairs that do not go together; 4 pairs of which one"
             + " needs the other; 5 the set of items that each choice must have; 6 the set of those that none may have; 7 the"
             + " choice at hand");
         ParetoDesk desk = new ParetoDesk();

@@ -55,11 +55,6 @@ public final class FrontierEdgesTest {
         Checks.end("FrontierEdgesTest");
     }
 
-    /** The points 0,12! 2,11+ 4,10! 5,8. 6,7+ 7,5. 8,4! 9,0! of one item each. */
-    private static ParetoDesk eight() {
-        return Desks.ofPairs(0, 12, 2, 11, 4, 10, 5, 8, 6, 7, 7, 5, 8, 4, 9, 0);
-    }
-
     /** Twelve points, each of which is a vertex. */
     private static ParetoDesk bow() {
         return Desks.ofPairs(0, 99, 1, 98, 2, 96, 3, 93, 4, 89, 5, 84, 6, 78, 7, 71, 8, 63, 9, 54, 10, 44, 11, 33);
@@ -297,7 +292,7 @@ public final class FrontierEdgesTest {
 
     private static void joyForAnyNumber() {
         Checks.sentence("Promise 18", "Returns the greatest joy of a point whose gain is at least this; NONE if there is none.");
-        ParetoDesk desk = eight();
+        ParetoDesk desk = Desks.eight();
         Checks.same("the gain of a point", desk.joyFor(2), 11);
         Checks.same("a gain between points", desk.joyFor(3), 10);
         Checks.same("the greatest gain", desk.joyFor(9), 0);
@@ -313,7 +308,7 @@ public final class FrontierEdgesTest {
 
     private static void gainForAnyNumber() {
         Checks.sentence("Promise 19", "Returns the greatest gain of a point whose joy is at least this; NONE if there is none.");
-        ParetoDesk desk = eight();
+        ParetoDesk desk = Desks.eight();
         Checks.same("the joy of a point", desk.gainFor(11), 2);
         Checks.same("a joy between points", desk.gainFor(9), 4);
         Checks.same("the greatest joy", desk.gainFor(12), 0);
@@ -337,8 +332,8 @@ public final class FrontierEdgesTest {
         Checks.same("joy counts more", line.best(98, 99), 0);
         Checks.same("gain alone", line.best(1, 0), 63);
         Checks.same("joy alone", line.best(0, 1), 0);
-        Checks.same("the lowest of three in the middle", eight().best(3, 2), 2);
-        Checks.same("of the last two", eight().best(4, 1), 6);
+        Checks.same("the lowest of three in the middle", Desks.eight().best(3, 2), 2);
+        Checks.same("of the last two", Desks.eight().best(4, 1), 6);
         Checks.same("without points", Desks.none().best(99, 99), -1);
         Checks.same("of no items", new ParetoDesk().best(1, 1), 0);
         Checks.same("of the greatest sums", Desks.twelve(99, 99).best(99, 99), 0);
@@ -415,7 +410,7 @@ public final class FrontierEdgesTest {
 
     private static void firstAndLastPoint() {
         Checks.sentence("3. FRONTIER", "the first and the last point always are.)");
-        ParetoDesk[] desks = {eight(), bow(), Desks.line(), Desks.ofPairs(0, 9, 1, 6, 2, 4, 5, 3, 6, 0)};
+        ParetoDesk[] desks = {Desks.eight(), bow(), Desks.line(), Desks.ofPairs(0, 9, 1, 6, 2, 4, 5, 3, 6, 0)};
         for (ParetoDesk desk : desks) {
             int last = desk.points() - 1;
             Checks.same("the first one", desk.point(0, 6), 1);
@@ -450,10 +445,10 @@ public final class FrontierEdgesTest {
         Checks.sentence("Promise 23", "`index`: index of a vertex, from 0 by ascending points");
         int[] due = {0, 2, 6, 7};
         for (int index = 0; index < due.length; index++) {
-            Checks.same(Desks.named("vertex", index), eight().vertex(index), due[index]);
+            Checks.same(Desks.named("vertex", index), Desks.eight().vertex(index), due[index]);
         }
         Checks.same("vertex(1) of a line", desks[3].vertex(1), 63);
-        Checks.outOfBounds("vertex(4)", () -> eight().vertex(4));
+        Checks.outOfBounds("vertex(4)", () -> Desks.eight().vertex(4));
         Checks.outOfBounds("vertex(12) of a bow", () -> bow().vertex(12));
     }
 
@@ -464,14 +459,14 @@ public final class FrontierEdgesTest {
         for (int i = 0; i < due.length; i++) {
             Checks.same("supported()", desks[i].supported(), due[i]);
         }
-        Checks.same("supported() of eight", eight().supported(), 6);
+        Checks.same("supported() of eight", Desks.eight().supported(), 6);
         Checks.same("supported() of a hollow", Desks.ofPairs(0, 99, 50, 48, 99, 0).supported(), 2);
     }
 
     private static void rowsOfABox() {
         Checks.sentence("Promise 25", "`box`: index of a box, that of vertex 0 and vertex 1 is 0");
         int[][] due = {{0, 2, 1, 1, 2}, {2, 6, 3, 1, 7}, {6, 7, 0, 0, -1}};
-        ParetoDesk desk = eight();
+        ParetoDesk desk = Desks.eight();
         for (int box = 0; box < due.length; box++) {
             for (int what = 0; what <= 4; what++) {
                 Checks.same(Desks.named("box", box, what), desk.box(box, what), due[box][what]);
@@ -674,7 +669,7 @@ public final class FrontierEdgesTest {
             Checks.same("fullest()", desks[i].fullest(), due[i]);
         }
         Checks.same("of eleven empty boxes", bow().fullest(), 0);
-        Checks.same("of boxes of 1, 3 and 0", eight().fullest(), 1);
+        Checks.same("of boxes of 1, 3 and 0", Desks.eight().fullest(), 1);
         Checks.same("of two boxes of 1", Desks.ofPairs(0, 6, 2, 5, 4, 4, 5, 2, 6, 0).fullest(), 0);
         Checks.same("of boxes of 0 and 1", Desks.ofPairs(2, 5, 4, 4, 5, 2, 6, 0).fullest(), 1);
     }

@@ -68,7 +68,7 @@ public final class UndoEdgesTest {
     }
 
     private static void eachCallCanBeUndone() {
-        Checks.sentence("5. UNDO", "each call of addItem(), dropItem(), setItem(), setCapacity(), setLimit(), bar(), need(), must(),"
+        Checks.sentence("5. UNDO", ", and each call of addItem(), dropItem(), setItem(), setCapacity(), setLimit(), bar(), need(), must(),"
             + " never(), choose(), chooseBest(), improve(), take(), leave() and restore() that does not throw (also if nothing"
             + " changes) can be undone;");
         for (int call = 0; call < CALLS; call++) {

@@ -9,6 +9,7 @@ final class Checks {
     private static int wrong = 0;
     private static int made = 0;
     private static String sentence = "";
+    private static boolean together = false;
 
     private Checks() {
     }
@@ -77,6 +78,13 @@ final class Checks {
         if (!Document.says(part, words)) {
             tell("the document does not say so");
         }
+        Document.name(part, words);
+    }
+
+    /** The tests that run from now on in this machine end together, with the one that runs them. */
+    static void runTogether(boolean on) {
+        together = on;
+        sentence = "";
     }
 
     static boolean anyWrong() {
@@ -84,6 +92,9 @@ final class Checks {
     }
 
     static void end(String name) {
+        if (together) {
+            return;
+        }
         System.out.println(name + ": " + made + " checks, " + wrong + " wrong");
         if (wrong > 0 || made == 0) {
             System.exit(1);

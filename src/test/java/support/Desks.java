@@ -21,6 +21,11 @@ final class Desks {
         return desk;
     }
 
+    /** The points 0,12! 2,11+ 4,10! 5,8. 6,7+ 7,5. 8,4! 9,0! of one item each. */
+    static ParetoDesk eight() {
+        return ofPairs(0, 12, 2, 11, 4, 10, 5, 8, 6, 7, 7, 5, 8, 4, 9, 0);
+    }
+
     /** The points 0,3 and 3,0, the choices of which, 1 and 2, are heavier than the others of the same pairs, 4 and 8. */
     static ParetoDesk heavyFirst() {
         return Checks.deskOf("capacity 9 limit 1; item weight 5 gain 0 joy 3; item weight 5 gain 3 joy 0;"
