@@ -243,6 +243,15 @@ public final class ChoiceEdgesTest {
         Checks.same("the first one alone", desk.refusal(1), 0);
         Checks.same("the last one alone", desk.refusal(2048), 0);
         Checks.same("neither", desk.refusal(2046), 0);
+        // Of three items no two go together: all three do not, either.
+        desk.bar(11, 5, true);
+        desk.bar(5, 0, true);
+        Checks.same("three, no two of which go together", desk.refusal(2048 + 32 + 1), 3);
+        Checks.same("two of them", desk.refusal(32 + 1), 3);
+        Checks.same("one of them", desk.refusal(32), 0);
+        desk.bar(11, 0, false);
+        Checks.same("two that both do not go with a third one", desk.refusal(2048 + 1), 0);
+        Checks.same("with the third one", desk.refusal(2048 + 32 + 1), 3);
     }
 
     private static void reasonNeed() {
@@ -256,6 +265,12 @@ public final class ChoiceEdgesTest {
         Checks.same("with both", desk.refusal(2048 + 3), 0);
         Checks.same("what is needed, alone", desk.refusal(1), 0);
         Checks.same("no items", desk.refusal(0), 0);
+        desk.need(10, 0, true);
+        Checks.same("two that need the same one", desk.refusal(2048 + 1024 + 2), 4);
+        Checks.same("two that need the same one, with it", desk.refusal(2048 + 1024 + 3), 0);
+        desk.need(0, 1, true);
+        Checks.same("one that needs what needs another one", desk.refusal(1024 + 1), 4);
+        Checks.same("with both", desk.refusal(1024 + 3), 0);
         desk.bar(0, 1, true);
         Checks.same("needed ones that do not go together", desk.refusal(2048 + 3), 3);
     }

@@ -66,6 +66,11 @@ public final class FreshAnswersTest {
                 }
             }
         }
+        for (Maker maker : List.<Maker>of(FreshAnswersTest::many, FreshAnswersTest::few, FreshAnswersTest::bow)) {
+            for (int change = 0; change < CHANGES.size(); change++) {
+                compareWithText(maker, change);
+            }
+        }
         Checks.end("FreshAnswersTest");
     }
 
@@ -82,6 +87,51 @@ public final class FreshAnswersTest {
         String name = question.name + " behind change " + change;
         Checks.sameText(name, answer(asked, question.ask), answer(silent, question.ask));
         Checks.sameText("points() behind " + name, answer(asked, ParetoDesk::points), answer(silent, ParetoDesk::points));
+    }
+
+    /** A desk that was asked and changed answers as one that is told the same items and rules by a text. */
+    private static void compareWithText(Maker maker, int change) {
+        Checks.sentence("Promise 4", "On success everything but the two slots and the output buffer is that of the text.");
+        ParetoDesk desk = maker.make();
+        for (Question question : QUESTIONS) {
+            if (!asksOfTheHand(question)) {
+                answer(desk, question.ask);
+            }
+        }
+        try {
+            CHANGES.get(change).on(desk);
+        } catch (IllegalStateException e) {
+            Checks.same("change " + change + " is one of the choice at hand", change >= 18 && change <= 22, true);
+        }
+        ParetoDesk told = Checks.deskOf(textOf(desk));
+        for (Question question : QUESTIONS) {
+            if (!asksOfTheHand(question)) {
+                Checks.sameText(question.name + " behind change " + change, answer(desk, question.ask), answer(told, question.ask));
+            }
+        }
+    }
+
+    private static boolean asksOfTheHand(Question question) {
+        return question.name.startsWith("change ") || question.name.startsWith("climb") || question.name.startsWith("undo")
+            || question.name.equals("property(7)");
+    }
+
+    private static String textOf(ParetoDesk desk) {
+        StringBuilder text = new StringBuilder("capacity " + desk.property(1) + " limit " + desk.property(2) + ";");
+        int items = desk.property(0);
+        for (int item = 0; item < items; item++) {
+            text.append("item weight ").append(desk.item(item, 0)).append(" gain ").append(desk.item(item, 1)).append(" joy ")
+                .append(desk.item(item, 2)).append(';');
+        }
+        for (int item = 0; item < items; item++) {
+            for (int other = 0; other < items; other++) {
+                text.append(other < item && (desk.item(item, 3) >> other & 1) != 0 ? "bar " + item + " " + other + ";" : "");
+                text.append((desk.item(item, 4) >> other & 1) != 0 ? "need " + item + " " + other + ";" : "");
+            }
+            text.append((desk.property(5) >> item & 1) != 0 ? "must " + item + ";" : "");
+            text.append((desk.property(6) >> item & 1) != 0 ? "never " + item + ";" : "");
+        }
+        return text.toString();
     }
 
     private static String answer(ParetoDesk desk, Ask ask) {
@@ -116,6 +166,21 @@ public final class FreshAnswersTest {
         desk.choose(1);
         desk.setLimit(5);
         desk.setCapacity(7);
+        return desk;
+    }
+
+    /** Eleven points, each of which is a vertex. */
+    private static ParetoDesk bow() {
+        ParetoDesk desk = new ParetoDesk();
+        desk.keep(1);
+        desk.addItem(1, 5, 5);
+        desk.keep(0);
+        desk.dropItem(0);
+        int[] joys = {99, 98, 96, 93, 89, 84, 78, 71, 63, 54, 44};
+        for (int i = 0; i < joys.length; i++) {
+            desk.addItem(1 + i % 3, i, joys[i]);
+        }
+        desk.setLimit(1);
         return desk;
     }
 
@@ -207,8 +272,8 @@ public final class FreshAnswersTest {
         }
         add("climb(1, 1)", desk -> desk.climb(1, 1));
         add("undoCount()", ParetoDesk::undoCount);
-        add("writeFrontier()", desk -> Checks.output(desk, Math.min(60, desk.writeFrontier())));
-        add("writeChoices()", desk -> Checks.output(desk, Math.min(60, desk.writeChoices())));
+        add("writeFrontier()", desk -> Checks.output(desk, Math.min(40, desk.writeFrontier())));
+        add("writeChoices()", desk -> Checks.output(desk, Math.min(40, desk.writeChoices())));
     }
 
     private static void askWhatChanges() {

@@ -624,6 +624,9 @@ public final class InputEdgesTest {
         right(three + "need 0 1; need 1 0;", 3);
         wrong(3, three + "need 0 1; need 1 0; need 1 ^0;");
         right(three + "bar 0 1; need 0 1; need 1 0;", 3);
+        right(three + "need 0 1; need 1 0; bar 0 1;", 3);
+        right(three + "need 0 1; bar 1 0; need 1 0;", 3);
+        wrong(3, three + "need 0 1; bar 1 0; bar 0 ^1;");
     }
 
     private static void sameSingle() {

@@ -8,6 +8,7 @@ public final class PlainSentencesTest {
 
     private static final String HEAD = "capacity 9 limit 9;";
     private static final String ITEM = "item weight 1 gain 2 joy 3;";
+    private static final int[] WEIGHTS = {0, 1, 2, 3, 4, 5, 7, 9, 20, 33, 49, 50, 51, 66, 98, 99};
 
     public static void main(String[] args) {
         callsOfOneObject();
@@ -17,6 +18,7 @@ public final class PlainSentencesTest {
         fromLeftToRight();
         bitMask();
         valueOfAPoint();
+        nearestByWeights();
         boxBetweenVertices();
         stepsOfTheSearch();
         whichException();
@@ -149,8 +151,8 @@ public final class PlainSentencesTest {
         Checks.sentence("3. FRONTIER", "The value of a point by weights p and q is p * gain + q * joy.");
         ParetoDesk desk = Desks.eight();
         int[][] points = {{0, 12}, {2, 11}, {4, 10}, {5, 8}, {6, 7}, {7, 5}, {8, 4}, {9, 0}};
-        for (int p = 0; p < 16; p++) {
-            for (int q = 0; q < 16; q++) {
+        for (int p : WEIGHTS) {
+            for (int q : WEIGHTS) {
                 int due = 0;
                 for (int point = 1; point < points.length; point++) {
                     int value = p * points[point][0] + q * points[point][1];
@@ -158,6 +160,25 @@ public final class PlainSentencesTest {
                 }
                 if (p + q > 0) {
                     Checks.same(Desks.named("best", p, q), desk.best(p, q), due);
+                }
+            }
+        }
+    }
+
+    private static void nearestByWeights() {
+        Checks.sentence("Promise 21", "Returns the point for which the greater one of p times what its gain lacks to the greatest gain, and"
+            + " q times what its joy lacks to the greatest joy, is least, the lowest one of several;");
+        ParetoDesk desk = Desks.eight();
+        int[][] lacks = {{9, 0}, {7, 1}, {5, 2}, {4, 4}, {3, 5}, {2, 7}, {1, 8}, {0, 12}};
+        for (int p : WEIGHTS) {
+            for (int q : WEIGHTS) {
+                int due = 0;
+                for (int point = 1; point < lacks.length; point++) {
+                    int lack = Math.max(p * lacks[point][0], q * lacks[point][1]);
+                    due = lack < Math.max(p * lacks[due][0], q * lacks[due][1]) ? point : due;
+                }
+                if (p + q > 0) {
+                    Checks.same(Desks.named("nearest", p, q), desk.nearest(p, q), due);
                 }
             }
         }

@@ -21,6 +21,8 @@ public final class UndoEdgesTest {
         parseErrorStays();
         slotsStay();
         whatIsWorkedOutFollows();
+        twelveItemsComeBack();
+        changesLeaveTheBuffers();
         Checks.end("UndoEdgesTest");
     }
 
@@ -343,6 +345,70 @@ public final class UndoEdgesTest {
             Checks.same("steps() behind call " + call, desk.steps(), steps);
             Checks.same("layers() behind call " + call, desk.layers(), layers);
             Checks.sameText("the frontier behind call " + call, Checks.frontier(desk), frontier);
+        }
+    }
+
+    private static void twelveItemsComeBack() {
+        Checks.sentence("5. UNDO", "undo() restores everything");
+        ParetoDesk desk = new ParetoDesk();
+        for (int i = 0; i < 12; i++) {
+            desk.addItem(i, 2 * i + 1, 3 * i + 2);
+        }
+        for (int i = 0; i < 12; i++) {
+            desk.bar(i, (i + 1) % 12, true);
+            desk.need(i, (i + 5) % 12, true);
+        }
+        desk.must(11, true);
+        desk.never(0, true);
+        desk.setCapacity(997);
+        String all = Checks.state(desk);
+        Checks.same("keep(1)", desk.keep(1), 12);
+        Checks.load(desk, "capacity 9 limit 9;" + ITEM.repeat(12));
+        Checks.sameText("a load() of twelve others", Checks.state(desk), "12 9 9 0 0 0 0 0 " + "|1 1 1 0 0 ".repeat(12));
+        desk.undo();
+        Checks.sameText("behind undo() of it", Checks.state(desk), all);
+        changeTheLast(desk);
+        for (int i = 0; i < 5; i++) {
+            desk.undo();
+        }
+        Checks.sameText("behind undo() of changes of the last item", Checks.state(desk), all);
+        Checks.sentence("Promise 60", "Makes everything as it was kept in a slot, which keeps it.");
+        changeTheLast(desk);
+        Checks.same("restore(1)", desk.restore(1), 12);
+        Checks.sameText("behind restore(1)", Checks.state(desk), all);
+    }
+
+    private static void changeTheLast(ParetoDesk desk) {
+        for (int what = 0; what <= 2; what++) {
+            desk.setItem(11, what, 90 + what);
+        }
+        desk.bar(11, 0, false);
+        desk.need(11, 4, false);
+    }
+
+    private static void changesLeaveTheBuffers() {
+        for (int call = 0; call < CALLS; call++) {
+            if (call != 14) {
+                ParetoDesk desk = prepared();
+                Checks.load(desk, "capacity 1000");
+                desk.writeFrontier();
+                Checks.give(desk, "capacity 77 limit 6;");
+                desk.truncate(19);
+                change(desk, call);
+                Checks.sentence("Promise 5", "Returns the code of the parse error of the last load();");
+                Checks.same("errorCode() behind call " + call, desk.errorCode(), 2);
+                Checks.sentence("Promise 6", "Returns the position of the parse error of the last load();");
+                Checks.same("errorPosition() behind call " + call, desk.errorPosition(), 9);
+                Checks.sentence("Promise 65", "Throws `IndexOutOfBoundsException` if index is negative or not less than the output's"
+                    + " length");
+                Checks.sameText("the output behind call " + call, Checks.output(desk, 9), "2,5! 5,2!");
+                Checks.outOfBounds("the byte behind it", () -> desk.outputByte(9));
+                Checks.sentence("Promise 3", "Throws `IllegalArgumentException` if length is out of range");
+                Checks.badArgument("truncate(20) behind call " + call, () -> desk.truncate(20));
+                desk.append(0x3B202020, 0x20202020, 0x20202020, 0x20202020, 0x20202020);
+                Checks.same("load() behind call " + call, desk.load(), 0);
+                Checks.same("its capacity", desk.property(1), 77);
+            }
         }
     }
 }

@@ -6,6 +6,7 @@ public final class WhatIfEdgesTest {
     public static void main(String[] args) {
         pointsLost();
         areaLost();
+        itemsThatAreGone();
         itemThatDoesNotExist();
         pointsOfACapacity();
         capacityOutOfRange();
@@ -28,6 +29,7 @@ public final class WhatIfEdgesTest {
         otherwiseClimbingEnds();
         climbOutOfRange();
         shareOfPoints();
+        refusedOnesDoNotCount();
         Checks.end("WhatIfEdgesTest");
     }
 
@@ -84,6 +86,25 @@ public final class WhatIfEdgesTest {
         ParetoDesk never = Desks.ofPairs(5, 5);
         never.never(0, true);
         Checks.same("of an item that no choice may have now", never.worth(0), 0);
+    }
+
+    private static void itemsThatAreGone() {
+        Checks.sentence("Promise 46", "Removes an item, with its rules, also from the choice at hand;");
+        ParetoDesk desk = Checks.deskOf("capacity 9 limit 9; item weight 5 gain 5 joy 5; item weight 1 gain 5 joy 5; bar 0 1;");
+        Checks.same("capacityFor() of the light one", desk.capacityFor(5, 5), 1);
+        Checks.same("lostWithout() beside another one", desk.lostWithout(0), 0);
+        Checks.same("layers() of both", desk.layers(), 2);
+        desk.dropItem(1);
+        Checks.same("capacityFor() without it", desk.capacityFor(5, 5), 5);
+        Checks.same("lostWithout() of the only one", desk.lostWithout(0), 1);
+        Checks.same("worth() of the only one", desk.worth(0), 25);
+        Checks.same("allowed() of the only one", desk.allowed(), 2);
+        Checks.same("how many have its pair", desk.point(0, 3), 1);
+        Checks.same("the lightest one", desk.lightest(0), 1);
+        Checks.same("pointsWith() too little for it", desk.pointsWith(4), 1);
+        desk.dropItem(0);
+        Checks.same("capacityFor() of no items", desk.capacityFor(5, 5), -1);
+        Checks.same("layers() of no items", desk.layers(), 1);
     }
 
     private static void itemThatDoesNotExist() {
@@ -219,6 +240,12 @@ public final class WhatIfEdgesTest {
         Checks.same("one point alone", new ParetoDesk().apart(0, 0), 0);
         Checks.same("the choice of point 0, not its lightest", Desks.heavyFirst().apart(0, 0), 0);
         Checks.same("the choice of point 1, not its lightest", Desks.heavyFirst().apart(1, 1), 0);
+        // The choice of point 1 is item 1, its lightest one items 2 and 3.
+        ParetoDesk desk = Checks.deskOf("capacity 9 limit 2; item weight 1 gain 0 joy 3; item weight 5 gain 3 joy 0;"
+            + "item weight 1 gain 1 joy 0; item weight 1 gain 2 joy 0; bar 0 1; bar 0 2; bar 0 3; bar 1 2; bar 1 3;");
+        Checks.same("the lightest one of point 1", desk.lightest(1), 12);
+        Checks.same("the choice of point 1 and that of point 0", desk.apart(1, 0), 2);
+        Checks.same("the choice of point 0 and that of point 1", desk.apart(0, 1), 2);
     }
 
     private static void pointsThatDoNotExist() {
@@ -466,5 +493,60 @@ public final class WhatIfEdgesTest {
         Checks.sameDouble("of a line", Desks.line().share(), 64.0 / 729.0);
         Checks.sameDouble("of twelve items", Desks.twelve(1, 1).share(), 1.0 / 4096.0);
         Checks.sameDouble("of one of three", Desks.ofPairs(1, 1, 2, 2).share(), 1.0 / 3.0);
+    }
+
+    // ---- refused choices ----
+
+    private static void refusedOnesDoNotCount() {
+        Checks.sentence("2. CHOICES", "A choice is refused for the first of these reasons that applies; otherwise it is allowed:");
+        for (int reason : new int[] {1, 4, 5, 6}) {
+            for (boolean barred : new boolean[] {true, false}) {
+                ParetoDesk desk = refusing(reason, barred);
+                boolean must = reason == 5;
+                String named = " of reason " + reason + (barred ? " and bars" : " and a limit");
+                Checks.same("refusal(2)" + named, desk.refusal(2), reason);
+                Checks.same("refusal(4)" + named, desk.refusal(4), reason);
+                Checks.same("allowed()" + named, desk.allowed(), must ? 1 : 2);
+                Checks.sameText("the frontier" + named, Checks.frontier(desk), "5,5!");
+                Checks.same("point(0, 3)" + named, desk.point(0, 3), 1);
+                Checks.same("area()" + named, desk.area(), 25);
+                Checks.same("pointOf(2)" + named, desk.pointOf(2), 0);
+                Checks.same("beatenBy(4)" + named, desk.beatenBy(4), -1);
+                Checks.same("lostWithout(0)" + named, desk.lostWithout(0), 1);
+                Checks.same("lostWithout(1)" + named, desk.lostWithout(1), 0);
+                Checks.same("worth(0)" + named, desk.worth(0), must ? -1 : 25);
+                Checks.same("worth(2)" + named, desk.worth(2), 0);
+                Checks.same("pointsWith(9)" + named, desk.pointsWith(9), 1);
+                Checks.same("capacityFor(6, 6)" + named, desk.capacityFor(6, 6), reason == 1 ? 99 : -1);
+                Checks.same("capacityFor(5, 5)" + named, desk.capacityFor(5, 5), 1);
+                Checks.same("layers()" + named, desk.layers(), must ? 1 : 2);
+                Checks.same("layerOf(1)" + named, desk.layerOf(1), 0);
+                Checks.same("layerOf(2)" + named, desk.layerOf(2), -1);
+                Checks.same("climb(1, 1)" + named, desk.climb(1, 1), 1);
+                desk.choose(1);
+                Checks.same("climb(1, 1) from an allowed choice" + named, desk.climb(1, 1), 1);
+                Checks.sameDouble("share()" + named, desk.share(), must ? 1.0 : 0.5);
+            }
+        }
+    }
+
+    /** Of items 0, 1 and 2, no two of which go together, the last two are refused though as good or better. */
+    private static ParetoDesk refusing(int reason, boolean barred) {
+        ParetoDesk desk = Checks.deskOf("capacity 9 limit 2; item weight 1 gain 5 joy 5; item weight 1 gain 5 joy 5;"
+            + "item weight 1 gain 7 joy 7;");
+        if (barred) {
+            desk.bar(0, 1, true);
+            desk.bar(0, 2, true);
+            desk.bar(1, 2, true);
+        } else {
+            desk.setLimit(1);
+        }
+        switch (reason) {
+            case 1: desk.setItem(1, 0, 99); desk.setItem(2, 0, 99); break;
+            case 4: desk.need(1, 0, true); desk.need(2, 0, true); break;
+            case 5: desk.must(0, true); break;
+            default: desk.never(1, true); desk.never(2, true); break;
+        }
+        return desk;
     }
 }
