@@ -7,7 +7,9 @@ import java.nio.file.Files;
 import java.nio.file.Path;
 import java.util.Arrays;
 import java.util.List;
+import java.util.Map;
 import java.util.Set;
+import java.util.TreeMap;
 import java.util.TreeSet;
 import java.util.regex.Matcher;
 import java.util.regex.Pattern;
@@ -23,6 +25,8 @@ public final class FaceTest {
         noPrivateMethodBearsAPublicName();
         classesAreSmall();
         methodsAreShort();
+        callsGoAtMostEightDeep();
+        onlyTheListedLibrary();
         wordsThatTheLanguageLeavesOut();
         Checks.end("FaceTest");
     }
@@ -127,6 +131,49 @@ public final class FaceTest {
             }
         }
         Checks.same("methods are found", methods > 100, true);
+    }
+
+    /** Methods of the same name count as one, so that what is found is never less than what there is. */
+    private static void callsGoAtMostEightDeep() throws IOException {
+        List<String> lines = Files.readAllLines(SOURCE);
+        Pattern head = Pattern.compile("( {4}| {8})\\w[^=;]*?(\\w+)\\(.*\\{");
+        Map<String, Set<String>> calls = new TreeMap<>();
+        for (int i = 0; i < lines.size(); i++) {
+            Matcher matcher = head.matcher(lines.get(i));
+            if (matcher.matches()) {
+                int length = lines.subList(i, lines.size()).indexOf(matcher.group(1) + "}");
+                String body = String.join("\n", lines.subList(i + 1, i + length)).replaceAll("//.*|\"[^\"]*\"|new \\w+\\(", "");
+                Matcher call = Pattern.compile("\\b(?!(?:if|for|while|switch)\\b)(\\w+) ?\\(").matcher(body);
+                while (call.find()) {
+                    calls.computeIfAbsent(matcher.group(2), none -> new TreeSet<>()).add(call.group(1));
+                }
+            }
+        }
+        Checks.same("methods that call others", calls.size() > 90, true);
+        for (String name : calls.keySet()) {
+            Checks.same(name + " calls at most eight deep", depth(name, calls, 0) <= 8, true);
+        }
+        Checks.same("point() calls some deep", depth("point", calls, 0) >= 5, true);
+    }
+
+    private static int depth(String name, Map<String, Set<String>> calls, int above) {
+        int deepest = 0;
+        // A method that comes to itself again shows as one that is far too deep.
+        for (String called : above > 20 ? Set.<String>of() : calls.getOrDefault(name, Set.of())) {
+            deepest = Math.max(deepest, depth(called, calls, above + 1));
+        }
+        return 1 + deepest;
+    }
+
+    private static void onlyTheListedLibrary() throws IOException {
+        String source = Files.readString(SOURCE).replaceAll("(?s)/\\*.*?\\*/|//[^\n]*", "").replaceAll("\"[^\"]*\"", "T");
+        Set<String> used = new TreeSet<>();
+        Matcher matcher = Pattern.compile("\\b([A-Z]\\w*|word)\\.(\\w+)\\(").matcher(source);
+        while (matcher.find()) {
+            used.add(matcher.group(1) + "." + matcher.group(2));
+        }
+        Checks.sameText("calls of the library", used.toString(), "[Arrays.fill, Integer.bitCount, Math.max, Math.min, System.arraycopy,"
+            + " word.charAt, word.length]");
     }
 
     private static void wordsThatTheLanguageLeavesOut() throws IOException {

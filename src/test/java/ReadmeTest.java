@@ -12,8 +12,6 @@ import java.util.TreeSet;
 import java.util.regex.Matcher;
 import java.util.regex.Pattern;
 import java.util.stream.Stream;
-import javax.tools.JavaCompiler;
-import javax.tools.ToolProvider;
 
 /** README.md: its examples answer what stands behind them, its texts load, it names what there is and nothing else. */
 public final class ReadmeTest {
@@ -67,9 +65,9 @@ public final class ReadmeTest {
         Path made = folder.resolve("ReadmeExample.class");
         try {
             Files.writeString(file, source);
-            JavaCompiler compiler = ToolProvider.getSystemJavaCompiler();
-            Checks.same("the examples' compiler", compiler.run(null, null, null, "-cp", System.getProperty("java.class.path"),
-                "-d", folder.toString(), file.toString()), 0);
+            Process compiler = new ProcessBuilder("javac", "--release", "17", "-cp", System.getProperty("java.class.path"), "-d",
+                folder.toString(), file.toString()).inheritIO().start();
+            Checks.same("the examples' compiler", compiler.waitFor(), 0);
             try (URLClassLoader loader = new URLClassLoader(new URL[] {folder.toUri().toURL()})) {
                 return (List<?>) loader.loadClass("ReadmeExample").getMethod("answers").invoke(null);
             }
